@@ -899,7 +899,8 @@ public final class TwentyPhrases {
 
         void goDays(int n) {
             for (int i = 0; i < n; i++) {
-                phrases.passNight(meetWants(knownSet()));
+                boolean wanted = wants.howManyOn(day) > 0;
+                phrases.passNight(wanted ? meetWants(knownSet()) : 0);
                 day++;
             }
         }
@@ -941,6 +942,7 @@ public final class TwentyPhrases {
         private final int[] roped = new int[LIMIT * LIMIT];
         private final int[] worth = new int[LIMIT];
         private final int[] minutes = new int[LIMIT];
+        private final int[] members = new int[LIMIT];
         private int ropes = 0;
         private int mendings = 0;
         private int phrases = 0;
@@ -969,17 +971,31 @@ public final class TwentyPhrases {
         int valueOf(int set) {
             int[] gains = (set & ropes) != 0 ? roped : bare;
             boolean mends = (set & mendings) != 0;
+            int size = listMembers(set);
             int together = 0;
             for (int want = 0; want < wants; want++) {
                 int most = worth[want] / 10;
-                for (int phrase = 0; phrase < phrases; phrase++) {
-                    if (isIn(set, phrase)) {
-                        most = Math.max(most, gains[want * LIMIT + phrase]);
+                for (int i = 0; i < size; i++) {
+                    int gained = gains[want * LIMIT + members[i]];
+                    if (gained > most) {
+                        most = gained;
                     }
                 }
                 together += metFrom(worth[want], most, mends);
             }
             return together;
+        }
+
+        /** How many they are; listed once, they needn't be looked for at each WANT. */
+        private int listMembers(int set) {
+            int size = 0;
+            for (int phrase = 0; phrase < phrases; phrase++) {
+                if (isIn(set, phrase)) {
+                    members[size] = phrase;
+                    size++;
+                }
+            }
+            return size;
         }
 
         int minutesOf(int set) {
@@ -1219,28 +1235,20 @@ public final class TwentyPhrases {
             if (place >= length) {
                 token = END;
             } else if (isLetter(place)) {
-                takeWord();
+                token = WORD;
+                while (behind < length && isLetter(behind)) {
+                    behind++;
+                }
             } else if (isDigit(place)) {
-                takeDigits();
+                token = NUMBER;
+                number = 0;
+                while (behind < length && isDigit(behind)) {
+                    number = Math.min(TOO_MUCH, number * 10 + bytes[behind] - '0');
+                    behind++;
+                }
             } else {
                 token = bytes[place] == ';' ? SIGN : OTHER;
                 behind = place + 1;
-            }
-        }
-
-        private void takeWord() {
-            token = WORD;
-            while (behind < length && isLetter(behind)) {
-                behind++;
-            }
-        }
-
-        private void takeDigits() {
-            token = NUMBER;
-            number = 0;
-            while (behind < length && isDigit(behind)) {
-                number = Math.min(TOO_MUCH, number * 10 + bytes[behind] - '0');
-                behind++;
             }
         }
 

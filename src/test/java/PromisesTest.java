@@ -321,6 +321,9 @@ public final class PromisesTest {
             due(x.gain(phrase, 0, 16), roped[phrase]);
             due(x.gain(phrase, 1, 63), elsewhere[phrase]);
         }
+        TwentyPhrases y = told("rope 0; thing 1 sound 10; want 1 worth 80 day 0");
+        due(y.gain(1, 0, 3), 80);
+        due(y.gain(1, 0, 2), 40);
         x.change(0, 3, 1);
         x.change(0, 4, 1);
         due(x.gain(URGENT, 0, 0), 213);
@@ -376,6 +379,12 @@ public final class PromisesTest {
         due(x.value(2 + 16), 79 + 44);
         due(x.value(64), BEYOND);
         due(x.value(-1), BEYOND);
+        // A rope that is none any more doesn't count, whatever was asked before.
+        x.turn(ROPE, PHRASE);
+        due(x.value(2 + 4), 71 + 9);
+        x.turn(MENDING, PHRASE);
+        due(x.value(2 + 16), 71 + 9);
+        due(x.value(2), 35 + 9);
         due(full().value(4095), 120);
         due(full().value(4096), BEYOND);
     }
@@ -453,6 +462,7 @@ public final class PromisesTest {
         TwentyPhrases y = told("phrase 1 minutes 9 sound 10; phrase 1 minutes 5 sound 10; phrase 1 minutes 5 sound 10;"
             + "want 1 worth 60 day 0");
         due(y.greedy(720, 1), 2);
+        due(y.greedy(0, 0), 6);
         due(y.greedy(-1, 0), BEYOND);
         due(y.greedy(721, 0), BEYOND);
         due(y.greedy(0, -1), BEYOND);
@@ -567,11 +577,16 @@ public final class PromisesTest {
         due(x.learn(0, 4), 99);
         due(x.learn(0, 1), 100);
         due(x.learn(0, 600), 100);
+        x.phrase(PHRASE, 0, 1, 0);
+        due(x.learn(1, 1), 100);
+        x.set(1, 2, 60);
+        x.set(1, 4, 0);
+        due(x.learn(1, 1), 1);
         due(x.of(0, 4), 100);
         due(x.learn(0, 0), BEYOND);
         due(x.learn(0, 601), BEYOND);
         due(x.learn(0, MIN), BEYOND);
-        due(x.learn(1, 1), BEYOND);
+        due(x.learn(2, 1), BEYOND);
         due(x.learn(-1, 1), BEYOND);
     }
 
@@ -936,7 +951,8 @@ public final class PromisesTest {
         Object[][] faults = {
             {"", 0}, {"   ", 3}, {";", 0}, {"line", 4}, {"line ", 5}, {"line 5;", 7}, {"line 5; ", 8}, {"line 5;;", 7},
             {"line 0", 5}, {"line 101", 5}, {"line 1000", 5}, {"line 99999999999999999999", 5}, {"line five", 5},
-            {"line 5 5", 7}, {"line 5 line 6", 7}, {"lines 5", 0}, {"Line 5", 0}, {"line-5", 4}, {"line 5\t", 6},
+            {"line 5 5", 7}, {"line 5 line 6", 7}, {"lines 5", 0}, {"linez 5", 0}, {"xine 5", 0}, {"lina 5", 0}, {"line`5", 4}, {"line{5", 4},
+            {"line/5", 4}, {"line:5", 4}, {"Line 5", 0}, {"line-5", 4}, {"line 5\t", 6},
             {"line 5\n;", 6}, {"line 5#", 6}, {"\u00e9", 0}, {"5", 0}, {"lineorder 1", 0}, {"line 5, line 6", 6},
             {"phrase", 6}, {"phrase 10", 7}, {"phrase minutes 5", 7}, {"phrase 1 minutes", 16},
             {"phrase 1 minutes 0", 17}, {"phrase 1 minutes 61", 17}, {"phrase 1 minutes sound 5", 17},
@@ -985,8 +1001,10 @@ public final class PromisesTest {
         due(x.sheet(0, 8, 40), 40);
         due(x.sheet(3, 16, 0), 0);
         due(x.sheet(1, 64, 2), 2);
+        x.write(1, 0, 9);
         x.write(1, 1, 9);
         due(x.sheet(1, 64, 2), 2);
+        due(x.write(1, 0, 9), 0);
         due(x.write(1, 1, 9), 0);
         due(x.sheet(1, 64, 1), 1);
         due(x.write(1, 1, 9), BEYOND);
