@@ -964,11 +964,12 @@ public final class PromisesTest {
             {"want 1 worth 5 hurry", 15}, {"order", 5}, {"order;line 5", 5}, {"order 2", 6}, {"order 0 0", 8},
             {"order 0 1 0", 10}, {"order 0 1 2", 10}, {"order 0 x", 8}, {"order 0 line 5", 8}, {"order 2;phrase 1", 6},
             {"phrase 1;order 3", 15}, {"order 0;", 8}, {"order 0 1000", 8}, {"minutes 5", 0}, {"line 5;x", 7}};
-        TwentyPhrases x = told("phrase 1; rope 2; line 44; order 1; want 1 worth 2 day 3");
         for (Object[] fault : faults) {
-            due(book(x, (String) fault[0]), -1 - (Integer) fault[1]);
-            due(x.count(3), 0);
+            TwentyPhrases each = told("phrase 1; rope 2; line 44; order 1; want 1 worth 2 day 3");
+            due(book(each, (String) fault[0]), -1 - (Integer) fault[1]);
+            due(each.count(3), 0);
         }
+        TwentyPhrases x = told("phrase 1; rope 2; line 44; order 1; want 1 worth 2 day 3");
         due(book(x, "line 50; phrase 1; want 1 worth 2 day 3; order 2 0; line 0"), -1 - 57);
         due(x.count(0), 2);
         due(x.count(1), 1);
