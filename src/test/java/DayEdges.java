@@ -606,6 +606,35 @@ final class DayEdges {
         Edges.due(x.plan(31, 16, 4, 0), 2);
     }
 
+    /** Of three the last order may be the only best one: 2 whole, 1 in part, 0 not at all. */
+    static void promise32TheLastOrderOfThree() {
+        TwentyPhrases x = five();
+        x.change(2, Edges.DAY, 4);
+        Edges.due(x.plan(7, 16, 5, -1), 1 + 20 + 30 + 4 + 5);
+        for (int i = 0; i < 3; i++) {
+            Edges.due(x.plan(7, 16, 5, i), 2 - i);
+        }
+    }
+
+    static void promise32TheLastOrderOfTwo() {
+        TwentyPhrases x = five();
+        Edges.due(x.plan(3, 10, 1, -1), 1 + 20 + 3 + 4 + 5);
+        Edges.due(x.plan(3, 10, 1, 0), 1);
+        Edges.due(x.plan(3, 10, 1, 1), 0);
+        Edges.due(x.plan(3, 10, 1, 2), Edges.NONE);
+    }
+
+    /** One that is KNOWN takes no minutes, wherever it stands in an order. */
+    static void promise32KnownOnesArePassedBy() {
+        TwentyPhrases x = five();
+        x.set(0, Edges.HELD, 60);
+        Edges.due(x.plan(3, 10, 1, -1), 10 + 20 + 3 + 4 + 5);
+        Edges.due(x.plan(3, 10, 1, 0), 0);
+        x.set(0, Edges.HELD, 59);
+        Edges.due(x.plan(3, 10, 1, -1), 1 + 20 + 3 + 4 + 5);
+        Edges.due(x.plan(3, 10, 1, 0), 1);
+    }
+
     /** Of orders that do as well the first by numbers: 3 ahead of 4 though 4 is worth more. */
     static void promise32OfSeveralTheFirstByNumbers() {
         TwentyPhrases x = five();

@@ -51,7 +51,7 @@ final class TermEdges {
         }
     }
 
-    /** SCORE grows as it can: all twelve WANTS of 99 on 99 days, changed from day to day. */
+    /** SCORE grows all the way, as far as 512 calls go: four WANTS of 99 on each of 99 days. */
     static void termsGreatestScore() {
         TwentyPhrases x = Edges.ofKinds(0);
         x.set(0, Edges.HELD, 100);
